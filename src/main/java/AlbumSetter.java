@@ -213,17 +213,7 @@ public final class AlbumSetter {
         return i >= 0 && i < row.length ? row[i] : 0;
     }
 
-    private static long at(long[] row, int i) {
-        return i >= 0 && i < row.length ? row[i] : 0L;
-    }
-
     private static void put(int[] row, int i, int number) {
-        if (i >= 0 && i < row.length) {
-            row[i] = number;
-        }
-    }
-
-    private static void put(long[] row, int i, long number) {
         if (i >= 0 && i < row.length) {
             row[i] = number;
         }
@@ -337,9 +327,91 @@ public final class AlbumSetter {
     }
 
     /**
-     * The nodes of one tree: node 0 is the whole, and the parts of a node stand one behind the
-     * other, behind the node itself. Trees of the two cuts are alike but for the cut, so the
-     * tables hold the trees of one cut alone.
+     * A picture's place in a tree, or a cut with its parts. Everything is counted in whole numbers:
+     * the sides in the node's shape, and where it lies in parts of a point, of which each direction
+     * has its own number to the point. With four pictures all of it stays far below a long's end.
+     */
+    private static final class Node {
+        private final int size;
+        private final int cut;
+        private final int row;
+        private final int start;
+        private Node firstPart = null;
+        private Node nextPart = null;
+        private Node ahead = null;
+        private Node behind = null;
+        private long width = 0;
+        private long height = 0;
+        private long left = 0;
+        private long across = 0;
+        private long acrossPoint = 1;
+        private long top = 0;
+        private long down = 0;
+        private long downPoint = 1;
+
+        Node(int size, int cut, int row, int start) {
+            this.size = size;
+            this.cut = cut;
+            this.row = row;
+            this.start = start;
+        }
+
+        /** The sides from the parts' sides: parts across have one height in common, parts down one width. */
+        void measure() {
+            width = cut == ACROSS ? 0 : 1;
+            height = cut == ACROSS ? 1 : 0;
+            for (Node part = firstPart; part != null; part = part.nextPart) {
+                if (cut == ACROSS) {
+                    width = width * part.height + part.width * height;
+                    height *= part.height;
+                } else {
+                    height = height * part.width + part.height * width;
+                    width *= part.width;
+                }
+            }
+        }
+
+        /** As large as can be on the page, in its shape. */
+        void placeOnPage(int pageWidth, int pageHeight) {
+            boolean full = pageWidth * height <= pageHeight * width;
+            across = full ? pageWidth : pageHeight * width;
+            acrossPoint = full ? 1 : height;
+            down = full ? pageWidth * height : pageHeight;
+            downPoint = full ? width : 1;
+        }
+
+        void placeAcross() {
+            long passed = 0;
+            for (Node part = firstPart; part != null; part = part.nextPart) {
+                long share = part.height > 0 ? height / part.height * part.width : 0;
+                part.left = left * width + across * passed;
+                part.across = across * share;
+                part.acrossPoint = acrossPoint * width;
+                part.top = top;
+                part.down = down;
+                part.downPoint = downPoint;
+                passed += share;
+            }
+        }
+
+        void placeDown() {
+            long passed = 0;
+            for (Node part = firstPart; part != null; part = part.nextPart) {
+                long share = part.width > 0 ? width / part.width * part.height : 0;
+                part.top = top * height + down * passed;
+                part.down = down * share;
+                part.downPoint = downPoint * height;
+                part.left = left;
+                part.across = across;
+                part.acrossPoint = acrossPoint;
+                passed += share;
+            }
+        }
+    }
+
+    /**
+     * A tree: a chain of nodes, the whole first and every cut ahead of its parts. Trees of the two
+     * cuts are alike but for the cut, so the tables hold the trees of one cut alone.
      */
     private static final class Tree {
         /** Four pictures, and three cuts at most above them. */
@@ -369,13 +441,18 @@ public final class AlbumSetter {
         /** A number a row: which tree of its cut a part of three is; smaller parts have but one. */
         private static final int[] TREE_OF_THREE = {0, 0, 0, 0, 0, 0, 0, 0, 0, 1, 2, 0, 0, 0, 1, 2};
 
-        private final int[] sizes = new int[MOST_NODES];
-        private final int[] cuts = new int[MOST_NODES];
-        private final int[] rows = new int[MOST_NODES];
-        private final int[] starts = new int[MOST_NODES];
-        private final int[] firstParts = new int[MOST_NODES];
-        private final int[] endParts = new int[MOST_NODES];
-        private int nodes = 0;
+        private final Node whole;
+        private Node last;
+
+        Tree(int n, int k) {
+            whole = new Node(n, cutOf(n, k), rowOf(n, k), 0);
+            last = whole;
+            Node node = whole;
+            for (int step = 0; step < MOST_NODES && node != null; step++) {
+                split(node);
+                node = node.behind;
+            }
+        }
 
         static int howMany(int n) {
             int ofOneCut = at(ONE_CUT_TREES, n);
@@ -399,61 +476,59 @@ public final class AlbumSetter {
             return within(i, 0, MOST_ON_PAGE - 1) ? at(PART_SIZES, row * MOST_ON_PAGE + i) : 0;
         }
 
-        void plant(int n, int k) {
-            nodes = 0;
-            addNode(n, cutOf(n, k), rowOf(n, k), 0);
-            for (int node = 0; node < nodes && node < MOST_NODES; node++) {
-                split(node);
-            }
-        }
-
-        private void split(int node) {
-            put(firstParts, node, nodes);
-            int row = at(rows, node);
-            int start = at(starts, node);
-            int partCut = at(cuts, node) == ACROSS ? DOWN : ACROSS;
+        private void split(Node node) {
+            int partCut = node.cut == ACROSS ? DOWN : ACROSS;
+            int start = node.start;
+            Node former = null;
             for (int i = 0; i < MOST_ON_PAGE; i++) {
-                int size = at(PART_SIZES, row * MOST_ON_PAGE + i);
+                int size = partSize(node.row, i);
                 if (size > 0) {
-                    int partRow = at(FIRST_ROW, size) + (size == 3 ? at(TREE_OF_THREE, row) : 0);
-                    addNode(size, size == 1 ? NO_CUT : partCut, partRow, start);
+                    int row = at(FIRST_ROW, size) + (size == 3 ? at(TREE_OF_THREE, node.row) : 0);
+                    Node part = new Node(size, size == 1 ? NO_CUT : partCut, row, start);
+                    if (former == null) {
+                        node.firstPart = part;
+                    } else {
+                        former.nextPart = part;
+                    }
+                    former = part;
+                    part.ahead = last;
+                    last.behind = part;
+                    last = part;
                     start += size;
                 }
             }
-            put(endParts, node, nodes);
-        }
-
-        private void addNode(int size, int cut, int row, int start) {
-            if (nodes < 0 || nodes >= MOST_NODES) {
-                return;
-            }
-            sizes[nodes] = size;
-            cuts[nodes] = cut;
-            rows[nodes] = row;
-            starts[nodes] = start;
-            nodes++;
         }
     }
 
-    /**
-     * Some pictures laid on a page by a tree. Everything is counted in whole numbers: of a node
-     * the two sides in its shape (rows of two, along the width and along the height), and where it
-     * begins and how long it is there, both in parts of a point, of which each node and direction
-     * has its own number to the point. With four pictures all of it stays far below a long's end.
-     */
+    /** All trees, each made once, and some pictures laid on a page by one of them. */
     private static final class Sheet {
-        private final Tree tree = new Tree();
-        private final int[] pictureSides = new int[2 * MOST_ON_PAGE];
+        private static final int ALL_TREES = 31;
+        private static final int[] FIRST_TREE = {0, 0, 1, 3, 9};
+
+        private final Tree[] forest = new Tree[ALL_TREES];
+        private final int[] widths = new int[MOST_ON_PAGE];
+        private final int[] heights = new int[MOST_ON_PAGE];
         private final int[] worths = new int[MOST_ON_PAGE];
-        private final long[] sides = new long[2 * Tree.MOST_NODES];
-        private final long[] begins = new long[2 * Tree.MOST_NODES];
-        private final long[] lengths = new long[2 * Tree.MOST_NODES];
-        private final long[] perPoint = new long[2 * Tree.MOST_NODES];
+        private final int[] areas = new int[MOST_ON_PAGE];
         private final int[] edges = new int[4 * MOST_ON_PAGE];
         private int count = 0;
         private int pageWidth = 0;
         private int pageHeight = 0;
         private int leastExpense = 0;
+        private long shapeAbove = 1;
+        private long shapeBelow = 1;
+
+        Sheet() {
+            for (int n = 1; n <= MOST_ON_PAGE; n++) {
+                int all = Tree.howMany(n);
+                for (int k = 0; k < all; k++) {
+                    int spot = at(FIRST_TREE, n) + k;
+                    if (spot >= 0 && spot < forest.length) {
+                        forest[spot] = new Tree(n, k);
+                    }
+                }
+            }
+        }
 
         /** Takes n pictures from one on, with their page; false if they can't be on one. */
         boolean take(Album album, int from, int n) {
@@ -464,8 +539,8 @@ public final class AlbumSetter {
                 if (n > 1 && !album.isPlain(from + i)) {
                     return false;
                 }
-                put(pictureSides, 2 * i, album.number(from + i, WIDTH));
-                put(pictureSides, 2 * i + 1, album.number(from + i, HEIGHT));
+                put(widths, i, album.number(from + i, WIDTH));
+                put(heights, i, album.number(from + i, HEIGHT));
                 put(worths, i, album.number(from + i, WORTH));
             }
             count = n;
@@ -476,17 +551,26 @@ public final class AlbumSetter {
 
         /** Lays the pictures taken by tree k; false if they have none such. */
         boolean lay(int k) {
-            if (k < 0 || k >= Tree.howMany(count)) {
+            Tree tree = k >= 0 && k < Tree.howMany(count) ? treeAt(at(FIRST_TREE, count) + k) : null;
+            if (tree == null) {
                 return false;
             }
-            tree.plant(count, k);
-            for (int node = tree.nodes - 1; node >= 0; node--) {
-                measure(node);
+            for (Node node = tree.last; node != null; node = node.ahead) {
+                if (node.cut == NO_CUT) {
+                    node.width = at(widths, node.start);
+                    node.height = at(heights, node.start);
+                } else {
+                    node.measure();
+                }
             }
-            placeWhole();
-            for (int node = 0; node < tree.nodes; node++) {
-                if (at(tree.sizes, node) > 1) {
-                    placeParts(node);
+            shapeAbove = tree.whole.width;
+            shapeBelow = tree.whole.height;
+            tree.whole.placeOnPage(pageWidth, pageHeight);
+            for (Node node = tree.whole; node != null; node = node.behind) {
+                if (node.cut == ACROSS) {
+                    node.placeAcross();
+                } else if (node.cut == DOWN) {
+                    node.placeDown();
                 } else {
                     layEdges(node);
                 }
@@ -519,115 +603,49 @@ public final class AlbumSetter {
             int points = 0;
             int worth = 0;
             for (int i = 0; i < count; i++) {
-                points += area(i);
+                points += at(areas, i);
                 worth += at(worths, i);
             }
             int unlikeness = 0;
             for (int i = 0; i < count; i++) {
-                unlikeness += Math.abs(area(i) * worth - points * at(worths, i));
+                unlikeness += Math.abs(at(areas, i) * worth - points * at(worths, i));
             }
             return pageWidth * pageHeight - points + (worth > 0 ? unlikeness / worth : 0);
         }
 
         /** A side of the whole tree's shape without a common divisor: 0 above, 1 below. */
         long reducedSide(int what) {
-            long divisor = at(sides, 0);
-            long rest = at(sides, 1);
+            long divisor = shapeAbove;
+            long rest = shapeBelow;
             for (int step = 0; step < 200 && rest > 0; step++) {
                 long next = divisor % rest;
                 divisor = rest;
                 rest = next;
             }
-            return divisor > 0 ? at(sides, what) / divisor : NONE;
+            long side = what == 0 ? shapeAbove : shapeBelow;
+            return divisor > 0 ? side / divisor : NONE;
         }
 
-        private int area(int i) {
-            int spot = 4 * i;
-            return (at(edges, spot + 2) - at(edges, spot)) * (at(edges, spot + 3) - at(edges, spot + 1));
+        private Tree treeAt(int spot) {
+            return spot >= 0 && spot < forest.length ? forest[spot] : null;
         }
 
-        /** Parts that lie along one direction have the other side in common, so their shares can be added. */
-        private void measure(int node) {
-            if (at(tree.sizes, node) == 1) {
-                int picture = at(tree.starts, node);
-                put(sides, 2 * node, at(pictureSides, 2 * picture));
-                put(sides, 2 * node + 1, at(pictureSides, 2 * picture + 1));
-                return;
-            }
-            int along = at(tree.cuts, node) == ACROSS ? 0 : 1;
-            int end = at(tree.endParts, node);
-            long common = 1;
-            for (int part = at(tree.firstParts, node); part < end; part++) {
-                common *= at(sides, 2 * part + 1 - along);
-            }
-            long sum = 0;
-            for (int part = at(tree.firstParts, node); part < end; part++) {
-                sum += share(part, along, common);
-            }
-            put(sides, 2 * node + along, sum);
-            put(sides, 2 * node + 1 - along, common);
-        }
-
-        /** The part's side along that direction, when its other side is the common one. */
-        private long share(int part, int along, long common) {
-            long other = at(sides, 2 * part + 1 - along);
-            return other > 0 ? at(sides, 2 * part + along) * (common / other) : 0;
-        }
-
-        private void placeWhole() {
-            long width = at(sides, 0);
-            long height = at(sides, 1);
-            put(begins, 0, 0L);
-            put(begins, 1, 0L);
-            if (pageWidth * height <= pageHeight * width) {
-                put(lengths, 0, pageWidth);
-                put(perPoint, 0, 1L);
-                put(lengths, 1, pageWidth * height);
-                put(perPoint, 1, width);
-            } else {
-                put(lengths, 0, pageHeight * width);
-                put(perPoint, 0, height);
-                put(lengths, 1, pageHeight);
-                put(perPoint, 1, 1L);
-            }
-        }
-
-        private void placeParts(int node) {
-            int along = at(tree.cuts, node) == ACROSS ? 0 : 1;
-            int own = 2 * node + along;
-            int ownOther = 2 * node + 1 - along;
-            long whole = at(sides, own);
-            long common = at(sides, ownOther);
-            long passed = 0;
-            int end = at(tree.endParts, node);
-            for (int part = at(tree.firstParts, node); part < end; part++) {
-                long share = share(part, along, common);
-                int spot = 2 * part + along;
-                put(begins, spot, at(begins, own) * whole + at(lengths, own) * passed);
-                put(lengths, spot, at(lengths, own) * share);
-                put(perPoint, spot, at(perPoint, own) * whole);
-                passed += share;
-                int other = 2 * part + 1 - along;
-                put(begins, other, at(begins, ownOther));
-                put(lengths, other, at(lengths, ownOther));
-                put(perPoint, other, at(perPoint, ownOther));
-            }
-        }
-
-        private void layEdges(int node) {
-            int picture = at(tree.starts, node);
-            for (int along = 0; along < 2; along++) {
-                int spot = 2 * node + along;
-                long begin = at(begins, spot);
-                long unit = at(perPoint, spot);
-                put(edges, 4 * picture + along, nearest(begin, unit));
-                put(edges, 4 * picture + 2 + along, nearest(begin + at(lengths, spot), unit));
-            }
+        private void layEdges(Node node) {
+            int left = nearest(node.left, node.acrossPoint);
+            int top = nearest(node.top, node.downPoint);
+            int right = nearest(node.left + node.across, node.acrossPoint);
+            int low = nearest(node.top + node.down, node.downPoint);
+            int spot = 4 * node.start;
+            put(edges, spot, left);
+            put(edges, spot + 1, top);
+            put(edges, spot + 2, right);
+            put(edges, spot + 3, low);
+            put(areas, node.start, (right - left) * (low - top));
         }
 
         /** The nearest whole point, halves upwards. */
-        private static int nearest(long length, long unit) {
-            return unit > 0 ? (int) ((2 * length + unit) / (2 * unit)) : 0;
+        private static int nearest(long length, long point) {
+            return point > 0 ? (int) ((2 * length + point) / (2 * point)) : 0;
         }
     }
 
