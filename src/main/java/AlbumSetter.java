@@ -761,12 +761,12 @@ public final class AlbumSetter {
                 return;
             }
             int sum = expense + rest;
-            int least = at(this.least, spot);
-            if (least == NONE || sum < least) {
-                put(this.least, spot, sum);
+            int known = at(least, spot);
+            if (known == NONE || sum < known) {
+                put(least, spot, sum);
                 put(ways, spot, at(ways, behind));
                 put(takes, spot, n);
-            } else if (sum == least) {
+            } else if (sum == known) {
                 put(ways, spot, at(ways, spot) + at(ways, behind));
             }
         }
