@@ -217,12 +217,10 @@ final class BookSentences extends Sentences {
     squares(4, 0);
     due("nine by three pages", x.books(), 10);
     dueCounts(1, 4, 4);
-    // 1 and 2 can't be parted, nor 3 and 4: 1 2 2 4 is a page too many, 3 2 4 and 3 3 3 are left, and 1 4 4
-    x.change(1, 1, 1, 1, 0, 1);
-    x.change(2, 1, 1, 1, 0, 1);
-    x.change(0, 1, 1, 1, 0, 1);
-    dueCounts(3, 2, 4);
+    // the first three together
+    for (int i = 0; i < 3; i++) x.change(i, 1, 1, 1, 0, 1);
     due("3 2 4, 3 3 3, 3 4 2, 4 1 4, 4 2 3, 4 3 2 and 4 4 1", x.books(), 7);
+    dueCounts(3, 2, 4);
   }
 
   private static void likeBooksWithEmptyPages() {
@@ -232,13 +230,8 @@ final class BookSentences extends Sentences {
     wide(12, 1);
     due("1 1 and 2 with an empty page", x.books(), 2);
     dueCounts(1, 1, 1, 1);
-    x.swap(0, 2);
     squares(1, 0);
-    x.swap(0, 3);
-    // 1, 1, 1 and the wide one again
-    x.change(2, 1, 1, 1, 0, 0);
-    x.change(3, 12, 1, 1, 1, 0);
-    x.change(0, 1, 1, 1, 0, 0);
+    x.swap(2, 3);
     due("1 2, 2 1 and 3 with an empty page", x.books(), 3);
     dueCounts(1, 2, 1, 1);
     x = new AlbumSetter();
@@ -427,34 +420,44 @@ final class BookSentences extends Sentences {
     // the two are better down than across now
     due("another tree on the second page", x.changed(), 1);
     due("its tree", x.leaf(1, 2), 1);
-    for (int i = 0; i < 3; i++) x.drop(0);
+    x.change(0, 1, 1, 1, 0, 5);
+    due("all on the first page", x.changed(), 0);
+    x.drop(2);
+    due("less on the first page", x.changed(), 0);
+    x.page(101, 100);
+    due("another tree on the first page", x.changed(), 0);
+    due("its tree", x.leaf(0, 2), 0);
+    x.drop(0);
+    x.drop(0);
     due("all are gone", x.changed(), 0);
   }
 
   private static void changedByEach() {
     sentence("before the latest change of PICTURES or page");
-    squares(3, 0);
+    squares(4, 0);
     wide(2, 1);
-    x.swap(0, 3);
-    // 1 2 and the spread of 3 before; the spread, 1, 1, 1 now: page 1 has the spread's right side for two
+    x.swap(1, 4);
+    // four pages and a spread before; a page, an empty one, a spread and three pages now
     due("swap", x.changed(), 1);
     due("asked again", x.changed(), 1);
     x.book();
     x.side(0, 1, 0, 0, 0);
-    x.swap(0, 4);
-    x.drop(4);
+    x.swap(0, 5);
+    x.drop(5);
     x.page(19, 100);
     due("behind calls that change nothing", x.changed(), 1);
     due("undo()", x.undo(), true);
     due("undo() is a change", x.changed(), 1);
     x.drop(2);
-    // 1 2 and a spread before, 1 1 and a spread now
+    // 1 2 and a spread now
     due("drop", x.changed(), 1);
     x.change(1, 1, 1, 1, 1, 0);
-    // 1, an empty page, and two spreads
+    // a page, an empty one and a spread, twice
     due("change", x.changed(), 1);
     x.picture(1, 1, 1, 0, 0);
-    due("picture", x.changed(), 6);
+    due("picture", x.changed(), 8);
+    x.page(50, 50);
+    due("page", x.changed(), 9);
   }
 
   private static void changedOfNone() {

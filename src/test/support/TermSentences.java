@@ -229,6 +229,29 @@ final class TermSentences extends Sentences {
     dueShape(0, 4, 11, 12, 175);
     // 12 + 1/12 above 1 + 2/3
     dueShape(0, 4, 18, 145, 99);
+    everyShape();
+  }
+
+  /** All trees of three, and of four those whose parts have two at most; 1, 1/2, 1/3 and 1/4 tell them apart. */
+  private static void everyShape() {
+    x = new AlbumSetter();
+    plain(1, 1, 1, 2, 1, 3, 1, 4);
+    dueShape(0, 3, 0, 11, 6);
+    dueShape(0, 3, 1, 6, 5);
+    dueShape(0, 3, 2, 2, 3);
+    dueShape(0, 3, 3, 1, 6);
+    dueShape(0, 3, 4, 5, 11);
+    dueShape(0, 3, 5, 3, 11);
+    dueShape(0, 4, 0, 25, 12);
+    dueShape(0, 4, 1, 23, 14);
+    dueShape(0, 4, 2, 29, 20);
+    dueShape(0, 4, 6, 11, 12);
+    dueShape(0, 4, 7, 10, 21);
+    dueShape(0, 4, 11, 1, 10);
+    dueShape(0, 4, 12, 7, 33);
+    dueShape(0, 4, 13, 5, 31);
+    dueShape(0, 4, 17, 3, 23);
+    dueShape(0, 4, 18, 21, 50);
   }
 
   private static void wholeTree() {
