@@ -10,6 +10,7 @@ final class BookSentences extends Sentences {
     groups();
     groupsParted();
     bestTrees();
+    bestTreesOfTheLast();
     emptyCost();
     moreThanFour();
     fourInARow();
@@ -144,6 +145,24 @@ final class BookSentences extends Sentences {
     dueLeaves(2, 0, 0);
     x.page(100, 101);
     dueLeaves(2, 0, 1);
+  }
+
+  private static void bestTreesOfTheLast() {
+    sentence("Each page has its best TREE");
+    x.page(100, 101);
+    squares(12, 0);
+    // the last two, three and four of twelve; those ahead of them are held so that none of them comes along
+    for (int i = 7; i < 12; i++) x.change(i, 1, 1, 1, 0, i < 10 ? 6 : 7);
+    due("two: one below the other", x.leaf(x.pageOf(11), 2), 1);
+    due("the first of them", x.leaf(x.pageOf(11), 1), 10);
+    x.change(9, 1, 1, 1, 0, 7);
+    due("three: one below the other", x.leaf(x.pageOf(11), 2), 3);
+    due("the first of them", x.leaf(x.pageOf(11), 1), 9);
+    x.change(8, 1, 1, 1, 0, 7);
+    due("four: two by two", x.leaf(x.pageOf(11), 2), 7);
+    x.page(20, 80);
+    due("four: one below the other", x.leaf(x.pageOf(11), 2), 11);
+    due("the first of them", x.leaf(x.pageOf(11), 1), 8);
   }
 
   private static void emptyCost() {
